@@ -83,6 +83,8 @@ public final class PromiseTest {
         fault("row abcdefgh strict 1;", 0, 0);
         fault("row abcdefghi strict 1;", 1, 4);
         fault("row a up 1;", 1, 6);
+        fault("row a not 1;", 1, 6);
+        fault("row a keep 1;", 1, 6);
         fault("row a strict;", 1, 12);
         fault("row a strict", 1, 12);
         fault("row a strict   ", 1, 15);
@@ -141,7 +143,16 @@ public final class PromiseTest {
         fault("weighs not not not not not not;", 5, 27);
         fault("weighs not (not (not (not (1))));", 5, 21);
         fault("weighs (((1)))+(((not 1)));", 0, 0);
+        fault("weighs not 1 + not 1 + not 1 + not 1 + not 1 + not 1 + (1) + (1) + (1);", 0, 0);
         fault("weighs number & 2;", 1, 14);
+        ChainIndex l = Check.told("weighs 0 - number; row a weak 3 4;");
+        due("a law", Check.weight(l, 0, 1), -4);
+        due("a fault within", Check.index(l, "weighs ((1 + not ("), 1 + 16 * 18);
+        due("a law stays", Check.weight(l, 0, 1), -4);
+        due("another law", Check.index(l, "weighs ((((number)))) + 1; row a weak 3 4;"), 0);
+        due("another law", Check.weight(l, 0, 1), 5);
+        due("none", Check.index(l, "row a weak 3 4;"), 0);
+        due("without weighs", Check.weight(l, 0, 1), 4);
         ChainIndex x = Check.told(TOLD);
         x.append(0, 7);
         x.see(0, 1, true);
@@ -256,6 +267,8 @@ public final class PromiseTest {
         due("=", weighs("1+2=3", "1", 0), 1);
         due("and of what is not 0", weighs("7 and 8", "1", 0), 1);
         due("or of what is not 0", weighs("0 or 8", "1", 0), 1);
+        due("or of what is not 0", weighs("8 or 0", "1", 0), 1);
+        due("or of 0", weighs("0 or 0", "1", 0), 0);
         due("and, or from the left", weighs("1 or 1 and 0", "1", 0), 0);
         due("and, or from the left", weighs("0 and 0 or 1", "1", 0), 1);
         due("not of a part", weighs("not 0 + 5", "1", 0), 6);
@@ -333,10 +346,15 @@ public final class PromiseTest {
         due("item 1", x.item(1, 1), 1);
         due("item 2", x.item(1, 2), 2);
         due("the kind stays", x.row(1, 0), 1);
+        int[] turned = {6, 2, 9, 5, 1, 4, 1, 3};
+        due("turn of eight", x.turn(0), true);
+        for (int place = 0; place < turned.length; place++) {
+            due("item " + place, x.item(0, place), turned[place]);
+        }
         x.cut(1);
         x.cut(1);
         due("turn of one", x.turn(1), true);
-        due("it can be undone", x.count(6), 4);
+        due("it can be undone", x.count(6), 5);
         for (int other : OTHERS) {
             due("turn of " + other, x.turn(other), false);
         }
@@ -352,12 +370,14 @@ public final class PromiseTest {
         due("strand 1 goes on", x.ends(0, 1), 3);
         due("strand 3 comes", x.ends(0, 3), 2);
         due("crossings", x.braid(0, 1), 2);
+        due("cross at 0", x.cross(0, 0), true);
+        due("strand 0", x.ends(0, 0), 1);
         due("cross at the end", x.cross(0, 3), false);
         due("cross at -1", x.cross(0, -1), false);
         due("cross far", x.cross(0, FAR), false);
         due("cross deep", x.cross(0, DEEP), false);
         due("cross of one strand", x.cross(1, 0), false);
-        due("what can be undone", x.count(6), 2);
+        due("what can be undone", x.count(6), 3);
         for (int other : OTHERS) {
             due("cross of " + other, x.cross(other, 0), false);
         }
@@ -423,6 +443,26 @@ public final class PromiseTest {
         due("no seventeenth", y.undo(), false);
         due("two stay", y.row(0, 1), 3);
         due("the first two", y.item(0, 2), 2);
+        ChainIndex z = Check.told("row a weak 0 1; row b weak 5 6 7; braid c 0 1 2;");
+        for (int i = 0; i < 5; i++) {
+            z.append(0, 50 + i);
+            z.cut(1);
+            z.turn(1);
+            z.append(1, 60 + i);
+            z.cross(0, i % 2);
+        }
+        due("sixteen of 23", z.count(6), 16);
+        int often = 0;
+        while (often < 20 && z.undo()) {
+            often++;
+        }
+        due("sixteen times", often, 16);
+        due("row a", z.row(0, 1), 4);
+        due("row a", z.item(0, 3), 51);
+        due("row b", z.row(1, 1), 2);
+        due("row b", z.item(1, 0), 6);
+        due("row b", z.item(1, 1), 5);
+        due("braid c", z.braid(0, 1), 1);
     }
 
     private static void promise15Judged() {
@@ -498,6 +538,25 @@ public final class PromiseTest {
         due("not the first place, if it is on none", y.pick(0, 0, 5, 0), 1);
         due("then", y.pick(0, 0, 5, 1), 3);
         due("then", y.pick(0, 0, 5, 2), 4);
+        ChainIndex z = Check.told("row a strict 4 1 2 5 3 6;");
+        int[] chain = {1, 2, 3, 5};
+        for (int i = 0; i < chain.length; i++) {
+            due("each follows the one ahead", z.pick(0, 0, 6, i), chain[i]);
+        }
+        ChainIndex t = Check.told("row a strict 3 4 1 2;");
+        due("the first place", t.pick(0, 0, 4, 0), 0);
+        due("what follows it", t.pick(0, 0, 4, 1), 1);
+        ChainIndex u = Check.told("row a strict 5 1 6 2;");
+        due("the first place", u.pick(0, 0, 4, 0), 0);
+        due("what follows it", u.pick(0, 0, 4, 1), 2);
+        ChainIndex v = Check.told("row a strict 5 1 2 6;");
+        due("no place that may not follow", v.pick(0, 0, 4, 0), 1);
+        ChainIndex w = Check.told("row a strict 2 1 3 0 9;");
+        due("what follows", w.pick(0, 0, 5, 1), 2);
+        ChainIndex q = Check.told("row a strict 5 2 6;");
+        due("a place ahead that may not follow", q.pick(0, 0, 3, 1), 2);
+        ChainIndex p = Check.told("row a strict 5 6 1 7 8 2 9;");
+        due("no place that may not follow", p.pick(0, 0, 7, 2), 3);
         windowsOnly("pick", new int[] {x.pick(0, -1, 2, 0), x.pick(0, 3, 2, 0), x.pick(0, 0, 9, 0), x.pick(4, 0, 1, 0)});
     }
 
@@ -619,6 +678,8 @@ public final class PromiseTest {
         due("the narrowest", x.near(0, 3), 32 * 3 + 6);
         due("near 4", x.near(0, 4), 32 * 1 + 6);
         due("near 20", x.near(0, 20), -1);
+        due("all of a row", Check.told("row a strict 1 2 3;").near(0, 3), 3);
+        due("all of twenty", Check.told("row a weak" + times(" 1", 20) + ";").near(0, 20), 20);
         due("near 21", x.near(0, 21), -1);
         due("near -1", x.near(0, -1), -1);
         due("row 4", x.near(4, 0), -1);
@@ -657,6 +718,14 @@ public final class PromiseTest {
         due("down", x.shape(2, 0, 4, 0), 3);
         due("down", x.shape(2, 0, 4, 1), 1);
         due("sink", x.shape(3, 0, 4, 0), 4);
+        ChainIndex z = Check.told("row a strict 2 3 1 4 0;");
+        int[] rows = {3, 1, 1, 0};
+        for (int i = 0; i < rows.length; i++) {
+            due("what is put out goes on", z.shape(0, 0, 5, i), rows[i]);
+        }
+        ChainIndex t = Check.told("row a strict 4 1 5 2;");
+        due("what is put out goes on", t.shape(0, 0, 4, 0), 2);
+        due("behind the ones it follows", t.shape(0, 0, 4, 1), 2);
         ChainIndex y = Check.told("row a strict" + times(" 1", 20) + ";");
         due("a column", y.shape(0, 0, 20, 19), 1);
         due("behind it", y.shape(0, 0, 20, 20), 0);
@@ -800,6 +869,7 @@ public final class PromiseTest {
         due("common", x.common(0, 2, 0, 4), 2);
         due("with itself", x.common(0, 0, 2, 5), 3);
         due("of no places", x.common(0, 0, 8, 8), 0);
+        due("of twenty", Check.told("row a strict" + times(" 7", 20) + ";").common(0, 0, 0, 20), 20);
         ChainIndex y = Check.told("row a strict 1 2 3; row b weak 3 2 1; weighs number - place;");
         due("by weights", y.common(0, 1, 0, 3), 1);
         due("each once", Check.told("row a weak 1; row b weak 1 1;").common(0, 1, 0, 2), 1);
@@ -887,6 +957,11 @@ public final class PromiseTest {
         due("of equal ones the first", Check.told("row a weak 1 2 3;").ask(0), 2);
         ChainIndex y = Check.told("row a strict 1 2 3 4 5 6;");
         due("lengths 6 5 4 3 2 1", y.ask(0), 3);
+        due("again", y.ask(0), 3);
+        ChainIndex z = Check.told("row a weak" + times(" 1", 20) + ";");
+        z.see(0, 19, true);
+        due("three windows", z.fits(0), 3);
+        due("the longest", z.ask(0), 20);
         for (int other : OTHERS) {
             due("row " + other, x.ask(other), -1);
         }
@@ -930,11 +1005,13 @@ public final class PromiseTest {
         due("ends", x.ends(0, 2), 2);
         due("seen", x.count(5), 1);
         due("made stays", x.count(3), 5);
+        due("what was seen", x.fits(0), 36);
         due("nothing can be undone", x.undo(), false);
         due("on", x.mark(3, true), true);
         due("rows", x.item(1, 3), 5);
         due("braids", x.count(1), 5);
         due("made of it", x.braid(4, 2), 4);
+        due("what was seen", x.fits(0), 36 - x.how(0, 1));
         due("seen", x.count(5), 2);
         due("again", x.mark(0, true), true);
         due("rows", x.row(1, 1), 3);
@@ -948,6 +1025,20 @@ public final class PromiseTest {
             due("mark " + other, x.mark(other, true), false);
         }
         due("none on 1", x.mark(1, true), false);
+        ChainIndex z = Check.told("row a weak 1 1; row b weak 1 1;");
+        z.mark(0, false);
+        z.see(0, 2, true);
+        z.mark(1, false);
+        z.mark(0, true);
+        z.see(1, 2, false);
+        due("seen of b", z.fits(1), 2);
+        z.mark(1, true);
+        due("seen of a", z.fits(0), 1);
+        due("not of b", z.fits(1), 3);
+        z.mark(0, true);
+        z.see(0, 1, false);
+        z.mark(1, true);
+        due("2 or more, not less than 1", z.fits(0), 1);
         ChainIndex y = new ChainIndex();
         due("of nothing", y.mark(1, false), true);
         due("to nothing", y.mark(1, true), true);
