@@ -783,15 +783,24 @@ public final class PromiseTest {
         }
         ChainIndex y = Check.told("braid a 3 1 4 0 5 2; braid b 2 5 1 0 4 3;");
         int kept = y.keep(0, 1);
+        int[][] first = countsOf(y, 0, 6);
+        int[][] second = countsOf(y, 1, 6);
+        int[][] both = countsOf(y, kept, 6);
         for (int i = 0; i <= 6; i++) {
             for (int k = 0; k <= 6; k++) {
                 int least = 99;
-                for (int j = 0; j <= 6; j++) {
-                    least = Math.min(least, y.counts(0, i, j) + y.counts(1, j, k));
-                }
-                due("the least of the counts", y.counts(kept, i, k), least);
+                for (int j = 0; j <= 6; j++) least = Math.min(least, first[i][j] + second[j][k]);
+                due("the least of the counts", both[i][k], least);
             }
         }
+    }
+
+    private static int[][] countsOf(ChainIndex x, int braid, int strands) {
+        int[][] counts = new int[strands + 1][strands + 1];
+        for (int i = 0; i <= strands; i++) {
+            for (int k = 0; k <= strands; k++) counts[i][k] = x.counts(braid, i, k);
+        }
+        return counts;
     }
 
     private static void promise32Power() {
