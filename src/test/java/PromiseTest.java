@@ -963,7 +963,7 @@ public final class PromiseTest {
         x.see(1, 2, false);
         due("of none", x.ask(1), -1);
         due("one place", Check.told("row a weak 1;").ask(0), -1);
-        due("of equal ones the first", Check.told("row a weak 1 2 3;").ask(0), 2);
+        due("three of LONG 1, two of 2, one of 3", Check.told("row a weak 1 2 3;").ask(0), 2);
         ChainIndex y = Check.told("row a strict 1 2 3 4 5 6;");
         due("lengths 6 5 4 3 2 1", y.ask(0), 3);
         due("again", y.ask(0), 3);
